@@ -176,6 +176,9 @@ public final class ActsTest {
         Due.is("one ACT", one.has(11), 1);
         one.undo();
         Due.is("undone in one", one.has(6), 0);
+        BlissMarket twice = Due.told("fact a day 1 worth 9;fact b day 900 worth 1;rule b from a;person p street 0 purse 4;licence p b till 900;");
+        Due.is("a BREACH by the DAY itself", twice.rumours(1), 1);
+        Due.is("not again", twice.rumours(1), 0);
         BlissMarket nobody = Due.told("fact a day 0 worth 1;");
         Due.is("without PEOPLE", nobody.rumours(3), 0);
         Due.is("no DRAWS", nobody.has(12), 1);
@@ -248,9 +251,9 @@ public final class ActsTest {
     }
 
     private static void keptOnes() {
-        StringBuilder s = new StringBuilder("stock 99;fact a day 1 worth 1;");
+        StringBuilder s = new StringBuilder("stock 99;fact a day 1 worth 1;fact x day 99 worth 1;fact y day 99 worth 1;rule y from x;");
         for (char f = 'b'; f <= 'g'; f++) {
-            s.append("fact ").append(f).append(" day 9 worth 1;rule ").append(f).append(" from a;");
+            s.append("fact ").append(f).append(" day 99 worth 1;rule ").append(f).append(" from a;");
         }
         for (char p = 'p'; p <= 'w'; p++) {
             s.append("person ").append(p).append(" street 0 purse 0;");
@@ -259,19 +262,26 @@ public final class ActsTest {
             }
         }
         BlissMarket x = Due.told(s.toString());
-        Due.are("the first one AHEAD, which KEPT will lose", new int[] {x.breach(0), x.breach(1), x.breach(2), x.breach(3)}, 1, 0, 1, 0);
+        Due.are("the first one AHEAD, which KEPT will lose", new int[] {x.breach(0), x.breach(1), x.breach(2), x.breach(3)}, 1, 0, 3, 1);
         Due.is("48 BREACHES", x.days(1), 48);
         Due.is("40 are told", x.has(10), 40);
         for (int k = 0; k < 40; k++) {
             Due.is("DAY", x.kept(k, 0), 1);
             Due.is("PERSON", x.kept(k, 1), (k + 8) / 6);
-            Due.is("FACT", x.kept(k, 2), (k + 8) % 6 + 1);
-            Due.is("RULE", x.kept(k, 3), (k + 8) % 6);
+            Due.is("FACT", x.kept(k, 2), (k + 8) % 6 + 3);
+            Due.is("RULE", x.kept(k, 3), (k + 8) % 6 + 1);
         }
         Due.is("none of the first one is told", x.person(0, 5), 0);
         Due.is("four of the second one", x.person(1, 5), 4);
         Due.is("six of the last one", x.person(7, 5), 6);
         Due.are("NONE", new int[] {x.kept(40, 0), x.kept(-1, 0), x.kept(0, 4), x.kept(0, -1)}, -1, -1, -1, -1);
+        x.buy(5, 2, 9);
+        Due.is("one more, by a word", x.word(5, 1), 2);
+        Due.are("the last", new int[] {x.has(10), x.kept(39, 0), x.kept(39, 1), x.kept(39, 2), x.kept(39, 3)}, 40, 1, 5, 2, 0);
+        Due.is("the oldest is gone", x.kept(0, 2), 6);
+        x.undo();
+        Due.are("undone: the oldest, the last", new int[] {x.kept(0, 2), x.kept(39, 1), x.kept(39, 2)}, 5, 7, 8);
+        x.undo();
         x.undo();
         Due.is("none", x.has(10), 0);
         Due.is("NONE", x.kept(0, 0), -1);

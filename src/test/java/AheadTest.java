@@ -85,6 +85,11 @@ public final class AheadTest {
         Due.is("no DAY beyond", x.surprise(1, 0, 10), -1);
         Due.is("seeded by DAY 999", x.seeded(9, -1), 1);
         Due.is("no DAY beyond", x.seeded(10, -1), -1);
+        BlissMarket y = Due.told("fact a day 0 worth 5;person p street 0 purse 4;licence p a till 999;");
+        for (int k = 0; k < 33; k++) {
+            y.days(30);
+        }
+        Due.is("there is no DAY 1000 on which the licence is over", y.when(0, 0), -1);
         x.days(9);
         Due.is("on DAY 999", x.when(0, 0), 999);
         Due.is("no BREACH AHEAD", x.breach(0), -1);

@@ -44,6 +44,8 @@ public final class FollowsTest {
         Due.is("of the row 1 3 5 0 needed are 1 5 0", x.by(1, 4, NONE), 3);
         Due.are("by", new int[] {x.by(1, 4, 0), x.by(1, 4, 1), x.by(1, 4, 2), x.by(1, 4, 3)}, 1, 5, 0, NONE);
         Due.are("each FACT by the RULE that gave it first", new int[] {x.by(33, 2, NONE), x.by(33, 2, 0)}, 1, 3);
+        BlissMarket two = Due.told(facts(5) + "rule c from a;rule d from b;rule e from c d;rule e from d;");
+        Due.are("both are needed", new int[] {two.by(3, 4, NONE), two.by(3, 4, 0), two.by(3, 4, 1), two.by(3, 4, 2)}, 3, 0, 1, 2);
         Due.are("one of them", new int[] {x.by(1, 0, NONE), x.by(1, 0, 0)}, 0, NONE);
         Due.are("it does not follow", new int[] {x.by(2, 4, NONE), x.by(2, 4, 0), x.by(0, 0, NONE)}, NONE, NONE, NONE);
         Due.are("NONE", new int[] {x.by(64, 0, NONE), x.by(-1, 0, NONE), x.by(1, 6, NONE), x.by(1, -1, NONE), x.by(1, 4, -2),
@@ -81,6 +83,8 @@ public final class FollowsTest {
         BlissMarket y = Due.told("fact a day 0 worth 18;fact b day 1 worth 9;fact c day 2 worth 9;fact d day 0 worth 1;rule d from a b;rule d from a c;"
             + "person p street 0 purse 0;price worth;");
         Due.are("of like ones the least bits, not the fewest", new int[] {y.cheapest(0, 3, 9, 0), y.cheapest(0, 3, 9, 1)}, 18, 1);
+        BlissMarket free = Due.told("fact a day 0 worth 9;fact b day 1 worth 9;fact c day 2 worth 9;rule c from a;rule c from b;person p street 0 purse 0;");
+        Due.are("all for nothing", new int[] {free.cheapest(0, 2, 9, 0), free.cheapest(0, 2, 9, 1), free.cheapest(0, 0, 9, 1)}, 0, 3, 0);
         BlissMarket z = Due.told("fact a day 0 worth 9;fact b day 1 worth 9;fact c day 2 worth 18;fact d day 0 worth 1;rule d from a c;rule d from b c;"
             + "person p street 0 purse 0;stock 0;price worth;");
         Due.are("a and b are less bits than c", new int[] {z.cheapest(0, 3, 9, 0), z.cheapest(0, 3, 9, 1)}, 18, 3);
@@ -104,6 +108,16 @@ public final class FollowsTest {
         BlissMarket w = Due.told("person p street 0 purse 0;person q street 0 purse 0;person r street 0 purse 0;person s street 0 purse 0;"
             + "meets s r on 1;meets q p on 1;meets q s on 1;meets s q on 1;");
         Due.are("p and s come ahead of q and r", new int[] {w.seeded(1, NONE), w.seeded(1, 0), w.seeded(1, 1)}, 2, 0, 3);
+        Due.is("four by today", w.seeded(0, NONE), NONE);
+        StringBuilder eight = new StringBuilder();
+        for (char p = 'p'; p <= 'w'; p++) {
+            eight.append("person ").append(p).append(" street 0 purse 0;");
+        }
+        for (char p = 'v'; p >= 'p'; p--) {
+            eight.append("meets w ").append(p).append(" on 6;");
+        }
+        BlissMarket last = Due.told(eight.toString());
+        Due.are("the last one", new int[] {last.seeded(6, NONE), last.seeded(6, 0), last.seeded(5, NONE)}, 1, 7, NONE);
         BlissMarket nobody = Due.told("fact a day 0 worth 1;");
         Due.are("without PEOPLE", new int[] {nobody.seeded(0, NONE), nobody.seeded(40, NONE), nobody.seeded(0, 0), nobody.seeded(41, NONE)},
             0, 0, NONE, NONE);
@@ -167,6 +181,34 @@ public final class FollowsTest {
         free.back(0, 0);
         free.back(0, 1);
         Due.are("for nothing, but no gain of 0", new int[] {free.rest(0), free.rest(1), free.rest(2), free.rest(3)}, 2, 1, 0, 19);
+        BlissMarket scarce = Due.told("fact a day 0 worth 10;fact b day 0 worth 10;person p street 0 purse 9;person q street 1 purse 9;stock 4;"
+            + "licence p a till 0;licence p b till 0;licence q a till 0;licence q b till 9;price 1;");
+        scarce.back(0, 0);
+        scarce.back(0, 1);
+        scarce.back(1, 0);
+        Due.are("three are left, and three bought", new int[] {scarce.rest(0), scarce.rest(1), scarce.rest(3)}, 3, 3, 0);
+        BlissMarket few = Due.told("fact a day 0 worth 10;fact b day 0 worth 10;fact c day 900 worth 10;person p street 0 purse 9;stock 2;"
+            + "licence p a till 0;licence p b till 0;price 1;");
+        few.back(0, 0);
+        few.back(0, 1);
+        few.buy(0, 2, 99);
+        Due.are("one is left for two", new int[] {few.rest(0), few.rest(1), few.rest(2), few.rest(3)}, 2, 1, 1, 0);
+        BlissMarket one = Due.told("fact a day 0 worth 30;fact b day 0 worth 20;person p street 0 purse 8;stock 2;"
+            + "licence p a till 0;licence p b till 0;price 2+5*(worth/30);");
+        one.back(0, 0);
+        one.back(0, 1);
+        Due.are("a for 7 has the greatest gain, then b for 2 is too dear", new int[] {one.rest(1), one.rest(2)}, 1, 7);
+        BlissMarket late = Due.told("fact a day 993 worth 30;fact b day 999 worth 20;person p street 0 purse 8;licence p a till 995;");
+        for (int k = 0; k < 33; k++) {
+            late.days(30);
+        }
+        late.days(3);
+        late.back(0, 0);
+        Due.is("till DAY 999", late.rest(1), 1);
+        late.undo();
+        late.days(1);
+        late.back(0, 0);
+        Due.is("not beyond", late.rest(1), 0);
         BlissMarket week = Due.told("fact a day 0 worth 50;person p street 0 purse 99;licence p a till 0;price days;");
         week.back(0, 0);
         Due.is("for 7 DAYS", week.rest(2), 7);

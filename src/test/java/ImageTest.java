@@ -55,6 +55,11 @@ public final class ImageTest {
             + "fact f day 2 worth 9;fact g day 2 worth 9;fact h day 2 worth 9;fact i day 2 worth 9;fact j day 2 worth 9;fact k day 2 worth 9;"
             + "fact l day 2 worth 9;person m street 0 purse 1;person n street 0 purse 1;person o street 0 purse 1;person p street 0 purse 1;"
             + "person q street 0 purse 1;person r street 0 purse 1;person s street 0 purse 1;person t street 0 purse 1;licence t l till 998;");
+        byte[] whole = image(most);
+        most.days(5);
+        Due.feed(most, whole);
+        Due.is("on, of the longest", most.on(), true);
+        Due.are("as it was", new int[] {most.has(6), most.person(7, 2), most.licence(7, 11), most.has(8)}, 0, 0, 998, 8);
         Due.is("the longest image", most.image(), 227);
         Due.are("its end", new int[] {most.octet(224), most.octet(225)}, 3, 231);
     }

@@ -232,6 +232,12 @@ public final class TextTest {
         fine("tells " + many(8, "[not (1)<2] or ") + "all;", 1);
         fine("tells [not [not [not all or not all] and not all] and not [all]];", 1);
         fault(1, "price (((((((1^(");
+        fault(5, "tells 1<(((((((^(");
+        fault(5, "price 1+(((((((^(");
+        fault(5, "price 1*(((((((^(");
+        fault(5, "tells all or not not not not not not not ^not");
+        fault(5, "tells all and [[[[[[[^[");
+        fault(5, "price min(((((((1)))))),((((((^(");
     }
 
     private static void oneTooMany() {

@@ -18,6 +18,7 @@ public final class WorldTest {
         tellsSees();
         howADayBegins();
         validity();
+        textsOneBehindAnother();
         Due.close("WorldTest");
     }
 
@@ -60,6 +61,8 @@ public final class WorldTest {
         Due.is("bob has none", x.person(1, 5), 0);
         Due.is("bob's BLISS", x.person(1, 4), 8);
         Due.is("two know war", x.fact(2, 2), 2);
+        BlissMarket y = Due.told("fact a day 0 worth 1;fact b day 0 worth 1;fact c day 0 worth 1;rule c from a;rule b from a c;");
+        Due.are("needed for", new int[] {y.fact(0, 5), y.fact(1, 5), y.fact(2, 5)}, 6, 0, 2);
         Due.is("one holds war", x.fact(2, 3), 1);
     }
 
@@ -121,6 +124,8 @@ public final class WorldTest {
         sum("9999", 999);
         BlissMarket x = Due.told("fact a day 0 worth 7;person p street 3 purse 0;");
         Due.is("without a price", x.price(0, 0, 99), 0);
+        BlissMarket y = Due.told("fact a day 0 worth 7;person p street 3 purse 0;price days;");
+        Due.are("for 1 DAY, for 99", new int[] {y.price(0, 0, 1), y.price(0, 0, 99)}, 1, 99);
     }
 
     private static void part(String part, int due) {
@@ -158,6 +163,8 @@ public final class WorldTest {
         test("all", true);
         test("not all", false);
         test("not not all", true);
+        test("not not not all", false);
+        test("not not not not all", true);
         test("1<2", true);
         test("2<2", false);
         test("2>2", false);
@@ -184,6 +191,15 @@ public final class WorldTest {
         test("holds=1", true);
         test("knows=1", true);
         test("street=other", false);
+        BlissMarket x = Due.told("fact a day 99 worth 1;fact b day 99 worth 2;fact c day 99 worth 3;person p street 4 purse 0;person q street 5 purse 0;"
+            + "meets p q on 1;price days+other;tells days=0 and [worth=1 or worth=3];");
+        for (int f = 0; f < 3; f++) {
+            x.word(0, f);
+        }
+        Due.is("price", x.price(0, 0, 9), 9);
+        x.days(1);
+        Due.is("each FACT by its own worth", x.person(1, 2), 5);
+        Due.is("no other in price", x.price(0, 0, 9), 9);
     }
 
     private static void howADayBegins() {
@@ -239,5 +255,28 @@ public final class WorldTest {
         Due.is("the last one counts", y.licence(0, 0), 0);
         Due.is("one licence", y.has(4), 1);
         Due.is("of 20", y.has(5), 19);
+    }
+
+    /** Nothing of a text stays in a later one, of a FAULT or not. */
+    private static void textsOneBehindAnother() {
+        String less = "fact a day 0 worth 7;fact b day 0 worth 7;person p street 3 purse 9;person q street 3 purse 9;";
+        BlissMarket x = Due.told(TOWN);
+        for (int k = 0; k < 3; k++) {
+            Due.feed(x, Due.bytes(k == 1 ? TOWN + "tells" : less));
+            x.capital();
+            Due.are("has", new int[] {x.has(0), x.has(1), x.has(2), x.has(3), x.has(4), x.has(5), x.has(8)}, 2, 0, 2, 0, 0, 20, 18);
+            Due.is("no price", x.price(0, 0, 9), 0);
+            Due.is("they know all", x.person(1, 2), 3);
+        }
+        Due.feed(x, Due.bytes("tells not [[not [1<((2"));
+        Due.is("a FAULT where much is open", x.capital(), -1);
+        Due.feed(x, Due.bytes(less + "licence q a till 3;back;"));
+        Due.is("a FAULT behind a licence", x.capital(), -1);
+        Due.feed(x, Due.bytes("stock 1;" + less + "price 5;tells 1=2;licence q b till 0;price 5;"));
+        Due.is("a second price", x.capital(), -1);
+        Due.feed(x, Due.bytes("stock 1;" + less + "licence q b till 0;meets p q on 1;tells not not not not not not not 1=2;price 5;"));
+        Due.is("none of these now", x.capital(), 9);
+        Due.is("price", x.price(0, 0, 9), 5);
+        Due.is("the TEST has nothing of the SUM", x.days(1), 0);
     }
 }
