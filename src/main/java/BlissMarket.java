@@ -1185,7 +1185,9 @@ public final class BlissMarket {
                 touching = false;
             }
             if (touched && touching) {
+                // The missing blank is ahead of a 7th letter or a 5th digit.
                 kind = Kinds.BROKEN;
+                faulty = start;
             }
         }
 

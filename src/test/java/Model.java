@@ -97,6 +97,9 @@ final class Model {
             if (!alnum(at)) {
                 return t.substring(at, at + 1);
             }
+            if (alnum(at - 1)) {
+                throw new Fault(1, at);
+            }
             boolean digit = Character.isDigit(t.charAt(at));
             int k = at;
             while (alnum(k) && Character.isDigit(t.charAt(k)) == digit) {
@@ -108,9 +111,6 @@ final class Model {
             }
             if (!digit && w.length() > 6 && !OWN.contains(w)) {
                 throw new Fault(1, at + 6);
-            }
-            if (alnum(at - 1)) {
-                throw new Fault(1, at);
             }
             return w;
         }

@@ -13,6 +13,7 @@ public final class TextTest {
         theTape();
         goodTexts();
         whatCannotGoOn();
+        wordsAndNumbersThatTouch();
         namesThatAreThere();
         namesThatAreNone();
         numbersThatCannotBe();
@@ -176,6 +177,59 @@ public final class TextTest {
         fault(1, "tells all ^all;");
         fault(1, "tells all or ^;");
         fault(1, "tells 1^!2;");
+    }
+
+    /** What touches is a FAULT at its first byte, which is ahead of a 7th letter or 5th digit in it. */
+    private static void wordsAndNumbersThatTouch() {
+        // a word behind a number
+        fault(1, "fact a day 0^worth 1;");
+        fault(1, "fact a day 0^illurs worth 1;");
+        fault(1, "fact a day 0^illurse worth 1;");
+        fault(1, "fact a day 0^illurse\0\0");
+        fault(1, "fact a day 999^abcdefghij");
+        fault(1, "fact a day 0 worth 1^licence;");
+        fault(1, "fact a day 0 worth 1^licences;");
+        fault(1, "stock 5^stock 6;");
+        fault(1, "stock 5^abcdefg;");
+        fault(1, "price 1+2^min(1,2);");
+        fault(1, "price 1+2^minimum(1,2);");
+        fault(1, "tells 1<2^and all;");
+        fault(1, "tells 1<2^andandand all;");
+        // a number behind a word
+        fault(1, "fact^5");
+        fault(1, "fact^12345");
+        fault(1, "fact a^1 day 0 worth 1;");
+        fault(1, "fact a^12345 day 0 worth 1;");
+        fault(1, "fact a day^1234 worth 1;");
+        fault(1, "fact a day^12345 worth 1;");
+        fault(1, "licence^1");
+        fault(1, "licence^123456789");
+        fault(1, "stock^99;");
+        fault(1, "stock^99999;");
+        fault(1, "price worth^1;");
+        fault(1, "price worth^10000;");
+        fault(1, "tells not^1<2;");
+        fault(1, "tells not^12345<2;");
+        fault(1, FACT_A + FACT_B + "rule a from b^1;");
+        fault(1, FACT_A + FACT_B + "rule a from b^12345;");
+        // what is ahead of what touches comes first
+        fault(1, "fact a day 1234^5abcdefg");
+        fault(1, "fact abcdef^g12345");
+        fault(1, "^x12345");
+        fault(1, "^1abcdefg");
+        fault(1, "^day12345");
+        fault(2, FACT_A + "fact ^a12345");
+        fault(3, FACT_A + "rule ^b12345");
+        fault(4, "fact a day ^1000abcdefg");
+        fault(6, "price 1;^price12345;");
+        // a blank or a sign between them is enough, and the 7th letter or 5th digit is told again
+        fault(1, "fact a day 0 illurs^e worth 1;");
+        fault(1, "fact a day 0\nillurs^e worth 1;");
+        fault(1, "fact a day 0^;illurse");
+        fault(1, "fact 1234^5");
+        fault(1, "price (1234^5);");
+        fault(1, "price 1+abcdef^g;");
+        fine("price min(1,2)+worth*(day)-3;", 1);
     }
 
     private static void namesThatAreThere() {
