@@ -186,7 +186,8 @@ public final class ModelTest {
                     s.setCharAt(at, (char) r.nextInt(256));
                     break;
                 case 4:
-                    s.insert(at, pick("fact", "not ", "licence ", "licences", " 12345", "(((((((", "all", " q", "stock 3;"));
+                    s.insert(at, pick("fact", "not ", "licence ", "licences", " 12345", "12345", "abcdefgh", "(((((((",
+                        "all", " q", "stock 3;"));
                     break;
                 case 5:
                     int to = Math.min(s.length(), at + r.nextInt(9));
