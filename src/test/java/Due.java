@@ -2,8 +2,14 @@
 final class Due {
     private static int wrong = 0;
     private static int asked = 0;
+    private static String about = "";
 
     private Due() {
+    }
+
+    /** What is printed ahead of a wrong answer from now on. */
+    static void about(String what) {
+        about = what;
     }
 
     static void is(String call, long got, long want) {
@@ -11,7 +17,7 @@ final class Due {
         if (got != want) {
             wrong++;
             if (wrong <= 50) {
-                System.out.println(call + " answered " + got + ", due is " + want);
+                System.out.println(about + call + " answered " + got + ", due is " + want);
             }
         }
     }
@@ -71,6 +77,21 @@ final class Due {
         is("capital of <" + text + "> refused", got == BlissMarket.NONE, kind != 0);
         is("fault(0) of <" + text + ">", x.fault(0), kind);
         is("fault(1) of <" + text + ">", x.fault(1), place);
+    }
+
+    /** The FAULT is where the ^ stands, which is no part of the text. */
+    static void fault(int kind, String marked) {
+        int place = marked.indexOf('^');
+        fault(marked.substring(0, place) + marked.substring(place + 1), kind, place);
+    }
+
+    /** The text has no FAULT, and so many STATEMENTS. */
+    static void fine(String text, int statements) {
+        BlissMarket x = new BlissMarket();
+        feed(x, bytes(text));
+        is("capital of <" + text + ">", x.capital(), statements);
+        is("fault(0)", x.fault(0), 0);
+        is("fault(1)", x.fault(1), BlissMarket.NONE);
     }
 
     static void close(String name) {

@@ -23,18 +23,12 @@ public final class TextTest {
         Due.close("TextTest");
     }
 
-    /** The FAULT is where the ^ stands, which is no part of the text. */
     private static void fault(int kind, String marked) {
-        int place = marked.indexOf('^');
-        Due.fault(marked.substring(0, place) + marked.substring(place + 1), kind, place);
+        Due.fault(kind, marked);
     }
 
     private static void fine(String text, int statements) {
-        BlissMarket x = new BlissMarket();
-        Due.feed(x, Due.bytes(text));
-        Due.is("capital of <" + text + ">", x.capital(), statements);
-        Due.is("fault(0)", x.fault(0), 0);
-        Due.is("fault(1)", x.fault(1), BlissMarket.NONE);
+        Due.fine(text, statements);
     }
 
     private static String many(int count, String line) {
