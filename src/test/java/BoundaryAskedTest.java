@@ -399,6 +399,12 @@ public final class BoundaryAskedTest {
             Due.are("p", seeded(fewer, 3), 1, 0);
             BlissMarket eight = Due.told(Town.people(8, 0, 0) + "meets w v on 1;meets v u on 1;meets u t on 1;meets t s on 1;meets s r on 1;meets r q on 1;meets q p on 1;");
             Due.are("in the row of the MEETINGS of one DAY", seeded(eight, 1), 1, 7);
+            String each = Town.many(6, "meets p # on 1;", 'q');
+            Due.are("the first of eight", seeded(Due.told(Town.people(8, 0, 0) + each + "meets p w on 1;"), 1), 1, 0);
+            Due.are("the first and the last of eight", seeded(Due.told(Town.people(8, 0, 0) + each), 1), 2, 0, 7);
+            Due.are("none less than three of eight", seeded(Due.told(Town.people(8, 0, 0) + each.replace("meets p v on 1;", "")), 1), 3, 0, 6, 7);
+            Due.are("none less than four of eight", seeded(Due.told(Town.people(8, 0, 0) + each.replace("meets p v on 1;", "").replace("meets p u on 1;", "")), 1), NONE);
+            Due.are("by the last of 16 MEETINGS", seeded(Due.told(P + Q + Town.many(15, "meets p q on 2;") + "meets q p on 1;"), 1), 1, 1);
             BlissMarket back = Due.told(Town.people(4, 0, 0) + "meets q p on 1;meets r q on 1;meets s r on 1;");
             Due.are("not against it: s tells r on DAY 1, r tells q on DAY 8", seeded(back, 8), 2, 0, 3);
             Due.are("three of these DAYS", seeded(back, 15), 1, 3);
@@ -495,6 +501,13 @@ public final class BoundaryAskedTest {
             BlissMarket days = Due.told("fact a day 0 worth 50;person p street 0 purse 99;price days;");
             Town.on(days, 0, 0, 99, 0);
             Due.are("for 7 DAYS", rest(days), 2, 1, 7, 19);
+            BlissMarket late = Due.told("fact a day 0 worth 50;person p street 0 purse 99;price 3;");
+            Town.on(late, 993, 0, 99, 0);
+            Due.are("till DAY 999", rest(late), 2, 1, 3, 19);
+            Town.on(late, 994, 0, 99, 0);
+            Due.are("till would be above 999", rest(late), 1, 0, 0, 20);
+            Town.on(late, 999, 0, 99, 0);
+            Due.are("on the last DAY", rest(late), 1, 0, 0, 20);
             BlissMarket last = Due.told("stock 1;fact a day 0 worth 50;person p street 5 purse 99;person q street 2 purse 99;price street;");
             Town.on(last, 0, 0, 99, 0, 0, 99, 0);
             Due.are("p, the first, has the only one", rest(last), 2, 1, 5, 0);
@@ -711,6 +724,17 @@ public final class BoundaryAskedTest {
             Due.are("none is", new int[] {x.has(10), x.kept(0, 0), x.person(0, 5)}, 0, NONE, 0);
             x.days(1);
             Due.are("the next one", new int[] {x.has(10), x.kept(0, 0)}, 1, 1);
+            x.when(0, 0);
+            Due.is("on(), behind a look AHEAD", Town.on(x, 0, 0, 0, 0, 10), true);
+            Due.is("none is", x.has(10), 0);
+        });
+        s.hold(34, " is AN IMAGE of this CAPITAL: true, all is as it tells", () -> {
+            BlissMarket x = Due.told("stock 99;" + Town.facts(12, 0, 1) + Town.people(8, 0, 9) + Town.many(12, "licence w # till 99;") + Town.many(12, "licence p # till 99;"));
+            x.bliss(7, 3);
+            Due.feed(x, Due.bytes("stock 1;fact a day 9 worth 1;" + P));
+            Due.is("capital()", x.capital(), 3);
+            Due.is("on()", Town.on(x, 0, 0, 0, 1), true);
+            Due.are("nothing of an older one", new int[] {x.has(4), x.has(5), x.has(8), x.person(0, 3), x.fact(0, 2)}, 1, 0, 0, 1, 0);
         });
         s.hold(34, ", no ACT can be undone", () -> {
             BlissMarket x = Due.told(A + P);

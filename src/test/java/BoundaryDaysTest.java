@@ -693,6 +693,8 @@ public final class BoundaryDaysTest {
         s.hold(8, ", 5 what it is needed for, as bits of FACTS", () -> {
             BlissMarket x = Due.told(Town.facts(12, 0, 1) + Town.many(11, "rule # from a;", 'b') + "rule a from l;rule b from l k;rule b from k;");
             Due.are("needed for", new int[] {x.fact(0, 5), x.fact(11, 5), x.fact(10, 5), x.fact(1, 5)}, 4094, 3, 2, 0);
+            BlissMarket most = Due.told(Town.facts(12, 0, 1) + Town.many(15, "rule b from a;") + "rule l from a k;");
+            Due.are("of 16 RULES", new int[] {most.fact(0, 5), most.fact(10, 5), most.fact(11, 5)}, 2050, 2048, 0);
         });
         s.hold(8, ". NONE when there is none such, or for others.", () -> {
             BlissMarket x = Due.told(A + B);
@@ -1069,6 +1071,24 @@ public final class BoundaryDaysTest {
             x.seed(9);
             x.undo();
             Due.is("seed() is no ACT", x.has(12), 9);
+            String licences = "licence s z till 9;";
+            for (char p = 'p'; p <= 'w'; p++) {
+                licences += Town.many(6, "licence " + p + " # till 9;", 'b');
+            }
+            BlissMarket full = Due.told("stock 99;fact a day 1 worth 1;" + Town.many(6, "fact # day 900 worth 1;", 'b') + "fact y day 2 worth 1;fact z day 900 worth 1;"
+                + Town.people(8, 0, 0) + Town.many(6, "rule # from a;", 'b') + "rule z from y;" + licences);
+            full.days(1);
+            String forty = Town.all(full);
+            Due.are("the oldest of forty", breach(full, 0), 1, 1, 3, 2);
+            Due.is("one more", full.days(1), 1);
+            Due.are("it has gone", breach(full, 0), 1, 1, 4, 3);
+            full.undo();
+            Town.same("it is back", Town.all(full), forty);
+            BlissMarket other = Due.told(Town.facts(4, 900, 1) + "rule c from a;rule d from b;" + P + "licence p c till 9;licence p d till 9;");
+            other.word(0, 0);
+            other.undo();
+            other.word(0, 1);
+            Due.are("another BREACH in its place", breach(other, 0), 0, 0, 3, 1);
         });
         s.hold(18, "; false, refused (4), when none can be.", () -> {
             BlissMarket x = Due.told(A + P);

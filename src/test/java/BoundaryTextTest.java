@@ -176,6 +176,14 @@ public final class BoundaryTextTest {
             BlissMarket twice = taped(text, 20);
             twice.end(8);
             Due.is("what is gone is gone", twice.end(9), false);
+            String[] cut = {"stock 12;", "stock;", "fact ab day 0 worth 1;", "stock 1;;"};
+            int[] first = {7, 3, 6, 8};
+            for (int k = 0; k < cut.length; k++) {
+                BlissMarket x = taped(cut[k], 40);
+                x.end(first[k]);
+                x.capital();
+                Due.are("cut in a word or number: " + cut[k], new int[] {x.fault(0), x.fault(1)}, k == 3 ? 0 : 1, k == 3 ? NONE : k == 1 ? 0 : first[k]);
+            }
         });
         s.hold(3, "false, refused (0), if it has not so many", () -> {
             BlissMarket x = taped("stock 1;", 8);
@@ -208,6 +216,25 @@ public final class BoundaryTextTest {
             Due.are("one of each", new int[] {z.has(0), z.has(1), z.has(2), z.has(3)}, 2, 1, 2, 1);
             Due.is("an empty tape is a CAPITAL", z.capital(), 0);
             Due.are("without anything", new int[] {z.has(0), z.has(1), z.has(2), z.has(3), z.has(4), z.has(5), z.has(8)}, 0, 0, 0, 0, 0, 20, 0);
+        });
+        s.hold(4, " is THE CAPITAL: how many STATEMENTS", () -> {
+            String most = "stock 30;" + Town.facts(12, 0, 9) + Town.people(8, 7, 99) + Town.many(16, "rule b from a;") + Town.many(16, "meets p q on 0;")
+                + Town.many(12, "licence p # till 9;") + "price 7;tells all;";
+            String[] texts = {most, A + P, "", "rule x", most, B + Q, most + "x", most, P + Q + A + "meets q p on 1;", A + "price 1;tells not all;?", B + P + "licence p b till 3;",
+                "stock 3;" + A + B + "rule a from b;" + P, A};
+            BlissMarket x = new BlissMarket();
+            String before = Town.all(x);
+            for (String text : texts) {
+                BlissMarket fresh = new BlissMarket();
+                Due.feed(fresh, Due.bytes(text));
+                int due = fresh.capital();
+                Due.feed(x, Due.bytes(text));
+                Due.is("capital(), behind others, of " + text, x.capital(), due);
+                if (due != NONE) {
+                    before = Town.all(fresh);
+                }
+                Town.same("of none but the latest without a FAULT, behind " + text, Town.all(x), before);
+            }
         });
         s.hold(4, "how many STATEMENTS", () -> {
             fine("", 0);
@@ -248,10 +275,15 @@ public final class BoundaryTextTest {
             Due.is("capital()", x.capital(), 16);
             Due.is("DAY", x.has(6), 0);
             Due.are("COMMON FACTS, licences, what follows, MEETINGS", new int[] {x.person(0, 2), x.person(1, 2), x.person(2, 2)}, 7, 0, 1);
-            Due.is("nothing of the old one is KEPT", x.has(10), 0);
-            Due.feed(x, Due.bytes("fact k day 0 worth 1;fact l day 0 worth 2;rule l from k;" + P + "licence p l till 0;"));
-            Due.is("capital()", x.capital(), 5);
-            Due.is("a BREACH of that DAY is KEPT", x.has(10), 1);
+            String one = "fact k day 0 worth 1;fact l day 0 worth 2;rule l from k;" + P + "licence p l till 0;";
+            for (int time = 0; time < 3; time++) {
+                Due.feed(x, Due.bytes(one));
+                Due.is("capital()", x.capital(), 5);
+                Due.is("a BREACH of that DAY alone is KEPT", x.has(10), 1);
+            }
+            Due.feed(x, Due.bytes(A + P));
+            Due.is("capital()", x.capital(), 2);
+            Due.are("nothing of the old one is KEPT", new int[] {x.has(10), x.kept(0, 0), x.person(0, 5)}, 0, NONE, 0);
         });
         s.hold(4, "no ACT can be undone", () -> {
             BlissMarket x = Due.told(A + P);
@@ -865,6 +897,27 @@ public final class BoundaryTextTest {
             wrong(1, "^;");
             wrong(1, "stock 1^,");
         });
+        s.hold(5, "1 the first byte with which no CAPITAL goes on", () -> {
+            wrong(1, "fact a day ^worth 0;");
+            wrong(1, "fact a day 0 worth ^;");
+            wrong(1, "fact ^day 0 worth 0;");
+            wrong(1, "fact a ^0 worth 0;");
+            wrong(1, "fact a day 0 ^0;");
+            wrong(1, "person p street ^purse 0;");
+            wrong(1, "person p street 0 purse ^;");
+            wrong(1, "person p ^0 purse 0;");
+            wrong(1, "person p street 0 ^0;");
+            wrong(1, P + Q + "meets p q on ^;");
+            wrong(1, P + Q + "meets p q ^0;");
+            wrong(1, P + Q + "meets ^on 0;");
+            wrong(1, A + P + "licence p a till ^;");
+            wrong(1, A + P + "licence p a ^0;");
+            wrong(1, "stock ^;");
+            wrong(1, A + B + "rule a from ^1;");
+            wrong(1, A + B + "rule ^;");
+            wrong(1, "tells ^;");
+            wrong(1, "tells not^;");
+        });
         s.hold(5, "; at the text's length, if it ends too soon", () -> {
             String text = A + P + Q + B + "rule a from b;meets p q on 0;licence p a till 0;price min(1,(2))+1;tells not [all] and 1<2 or all;";
             int statements = 0;
@@ -988,6 +1041,15 @@ public final class BoundaryTextTest {
             fine("price min(((((((1)))))),((((((2)))))));", 1);
             wrong(5, "price min(((((((1)))))),((((((^(2))))))));");
             wrong(5, "price max(((((((^(");
+            fine("price " + Town.many(20, "min(1,2)+") + Town.many(20, "max(1,2)*") + "(((((((1)))))));", 1);
+            wrong(5, "price " + Town.many(20, "min(1,2)+") + "(((((((^(1))))))));");
+            BlissMarket x = new BlissMarket();
+            for (String refused : new String[] {"price (((((((", "tells [[[[[[[", "tells not not not not", "price min((((((1", "price (((((((("}) {
+                Due.feed(x, Due.bytes(refused));
+                Due.is("capital()", x.capital(), NONE);
+                Due.feed(x, Due.bytes("price (((((((1)))))));tells not not not [[[[all]]]];"));
+                Due.is("nothing is open behind <" + refused + ">", x.capital(), 2);
+            }
         });
         s.hold(5, " (not until its FACET ends), at it", () -> {
             fine("tells not not not not not not not all and not not not not not not not all;", 1);
